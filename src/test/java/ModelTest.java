@@ -9,7 +9,7 @@ import java.util.Random;
 
 /** Runs of calls by chance, always the same ones: RateOffice answers as OfficeModel does. */
 public final class ModelTest {
-    private static final int RUNS = 1500;
+    private static final int RUNS = 4000;
     private static final int[] EDGES = {Integer.MIN_VALUE, -1000, -3, -2, -1, 0, 1, 2, 3, 4, 5, 6, 7, 8, 9, 12, 20,
         21, 40, 41, 50, 51, 60, 61, 99, 100, 101, 500, 501, 999, 1000, 9999, 10000, 99999, 100000,
         1 << 12, 1 << 30, Integer.MAX_VALUE};
@@ -62,7 +62,9 @@ public final class ModelTest {
             }
             int n = 20 + random.nextInt(60);
             for (int i = 0; i < n && !wrong && calls < 500; i++) {
-                call(CALLS.get(random.nextInt(CALLS.size())).getName());
+                String name = CALLS.get(random.nextInt(CALLS.size())).getName();
+                // A text makes all anew, so most of a run goes on without one.
+                call(name.equals("text") && random.nextInt(10) != 0 ? "turn" : name);
             }
         }
     }
@@ -106,9 +108,9 @@ public final class ModelTest {
             case "fault0": case "hardest0": case "kinds0": case "atEnd1": case "swing2": return n % 3;
             case "named0": return (n % 4 + 1) << 25;
             case "turn0": case "relativity0": case "join0": case "factor0": case "margin0": case "share0":
-            case "atEnd0": case "ratio0": case "withoutFactor0": case "bestJoin0": case "swing1": return n % 4;
-            case "relativity1": case "join1": case "margin1": case "share1": case "ratio1": return n % 6;
-            case "relativity2": return n % 2 == 0 ? 10000 : n / 2 % 60000;
+            case "atEnd0": case "ratio0": case "withoutFactor0": case "bestJoin0": case "swing1": return n % (n / 100 % 4 + 1);
+            case "relativity1": case "join1": case "margin1": case "share1": case "ratio1": return n % (n / 100 % 6 + 1);
+            case "relativity2": return n % 3 == 0 ? 10000 : 8000 + n / 3 % (n % 5 == 0 ? 50000 : 4000);
             case "claims0": case "of0": case "step0": case "swing0": case "withoutRisk0": case "ranked0":
             case "drop0": return n % (n / 100 % 8 + 1);
             case "claims1": return n % 100000 % (n % 3 == 0 ? 100000 : 3000);
@@ -207,7 +209,7 @@ public final class ModelTest {
             if (faulty != 0 && some(6)) {
                 return tooMany();
             }
-            int n = random.nextInt(5);
+            int n = some(8) ? 0 : 1 + random.nextInt(4);
             String[] names = {"a", "b", "c", "d"};
             int[] levels = new int[4];
             for (int f = 0; f < n; f++) {
@@ -224,13 +226,14 @@ public final class ModelTest {
                 }
             }
             settings();
+            boolean near = some(2);
             int risks = some(6) ? 30 : random.nextInt(12);
             for (int r = 0; r < risks; r++) {
                 Object[] tokens = new Object[4 + n];
                 tokens[0] = "risk";
                 tokens[1] = pick(1, some(3) ? 99 : 5);
-                tokens[2] = some(5) ? pick(0, 99999) : pick(0, 4000);
-                tokens[3] = some(5) ? pick(1, 99999) : pick(500, 4000);
+                tokens[2] = near ? pick(900, 1300) : some(5) ? pick(0, 99999) : pick(0, 4000);
+                tokens[3] = near ? pick(900, 1200) : some(5) ? pick(1, 99999) : pick(500, 4000);
                 for (int f = 0; f < n; f++) {
                     tokens[4 + f] = pick(0, levels[f] - 1);
                 }
@@ -275,6 +278,10 @@ public final class ModelTest {
                 return right;
             }
             int at = random.nextInt(right.length());
+            if (some(2)) {
+                at = right.indexOf(';', at) + 1;
+                at = at == right.length() ? 0 : at;
+            }
             switch (random.nextInt(5)) {
                 case 0:
                     return right.substring(0, at);
