@@ -941,7 +941,7 @@ public final class PromisesTest {
         due(x.withoutFactor(0, 50), 100);
         due(x.all(3), 100);
         due(x.count(7), 1);
-        // a back at 10000, then b turns by itself: 0 and 100 (the empty level) are as above
+        // a goes back to 10000 and stays, b alone turns: as above, whatever a was
         x.relativity(0, 0, 20000);
         due(x.withoutFactor(0, 1), 100);
         // without rounds b has 15000 and 5000 still, and a is at 10000
