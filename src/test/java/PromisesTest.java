@@ -1,5 +1,4 @@
 import java.util.Arrays;
-import java.util.NoSuchElementException;
 
 /** For each promise of the document, by its number: ordinary calls, the edges it names, wrong inputs. */
 public final class PromisesTest {
@@ -21,72 +20,18 @@ public final class PromisesTest {
         row = 0;
     }
 
-    private static int feedAll(RateOffice x, String text) {
-        int length = 0;
-        for (int i = 0; i < text.length(); i += 20) {
-            int[] w = new int[5];
-            for (int k = 0; k < 20; k++) {
-                int c = i + k < text.length() ? text.charAt(i + k) : ' ';
-                w[k / 4] = w[k / 4] << 8 | c;
-            }
-            length = x.feed(w[0], w[1], w[2], w[3], w[4]);
-        }
-        return length;
-    }
-
-    private static int tell(RateOffice x, String text) {
-        feedAll(x, text);
-        return x.text(text.length());
-    }
-
-    private static RateOffice office(String text) {
-        RateOffice x = new RateOffice();
-        int lines = tell(x, text);
-        if (lines < 0) {
-            throw new IllegalArgumentException(text);
-        }
-        return x;
-    }
-
     private static void fault(String text, int kind, int place) {
         RateOffice x = new RateOffice();
-        due(tell(x, text), -1);
+        due(Desk.tell(x, text), -1);
         due(x.fault(0), kind);
         due(x.fault(1), place);
     }
 
     private static void right(String text, int lines) {
         RateOffice x = new RateOffice();
-        due(tell(x, text), lines);
+        due(Desk.tell(x, text), lines);
         due(x.fault(0), 0);
         due(x.fault(1), -1);
-    }
-
-    private static String times(int n, String line) {
-        StringBuilder s = new StringBuilder();
-        for (int i = 0; i < n; i++) {
-            s.append(line);
-        }
-        return s.toString();
-    }
-
-    private static int letters(String name) {
-        int v = 0;
-        for (int i = 0; i < 6; i++) {
-            v = v * 32 + (i < name.length() ? name.charAt(i) - 'a' + 1 : 0);
-        }
-        return v;
-    }
-
-    /** 0: nothing is thrown, 1: IndexOutOfBoundsException itself, 2: NoSuchElementException itself, 3: another. */
-    private static int thrown(RateOffice x, int factor, int what) {
-        try {
-            x.factor(factor, what);
-            return 0;
-        } catch (RuntimeException e) {
-            return e.getClass() == IndexOutOfBoundsException.class ? 1
-                    : e.getClass() == NoSuchElementException.class ? 2 : 3;
-        }
     }
 
     // Two factors, the third level of b empty; premiums 100, 100, 200.
@@ -170,7 +115,7 @@ public final class PromisesTest {
         due(x.text(0), 0);
         due(x.text(-1), -2);
         due(x.text(1), -2);
-        feedAll(x, "cap 7;base 5;");
+        Desk.feedAll(x, "cap 7;base 5;");
         due(x.text(-1), -2);
         due(x.text(21), -2);
         due(x.count(8), 20);
@@ -182,14 +127,14 @@ public final class PromisesTest {
         x.keep();
         x.cap(8);
         // a fault leaves the image and what can be undone
-        due(tell(x, "cap 9;trust 5;base 0;"), -1);
+        due(Desk.tell(x, "cap 9;trust 5;base 0;"), -1);
         due(x.count(4), 8);
         due(x.count(9), 0);
         due(x.count(7), 1);
         due(x.back(), 0);
         due(x.count(4), 7);
         x.cap(9);
-        due(tell(x, "bound 3;"), 1);
+        due(Desk.tell(x, "bound 3;"), 1);
         due(x.count(3), 3);
         due(x.count(4), 250);
         due(x.count(7), 0);
@@ -204,11 +149,11 @@ public final class PromisesTest {
         right("factor a 1;band a 10000 10000;base 1;bound 0;cap 0;trust 0;fleet 1 0;risk 1 0 1 0;seed 0;", 9);
         right("factor\na2;risk1 1 1 1 ;band a 0010000 000010000\n;", 3);
         right("factor a 2;risk 1 1 1 0;join a 0;risk 1 1 1 1;band a 1 10000;", 5);
-        right(times(40, "risk 1 1 1;"), 40);
+        right(Desk.times(40, "risk 1 1 1;"), 40);
         right("factor a 2;factor b 2;join a 0;join b 0;", 4);
         begin(4);
         RateOffice y = new RateOffice();
-        due(tell(y, "cap 9;cap 9;"), -1);
+        due(Desk.tell(y, "cap 9;cap 9;"), -1);
         due(y.fault(0), 3);
         due(y.fault(1), 6);
         // -2 leaves the fault as it was
@@ -217,7 +162,7 @@ public final class PromisesTest {
         due(y.fault(1), 6);
         due(y.fault(2), -1);
         due(y.fault(-1), -1);
-        due(tell(y, "cap 9;"), 1);
+        due(Desk.tell(y, "cap 9;"), 1);
         due(y.fault(0), 0);
         due(y.fault(1), -1);
     }
@@ -264,7 +209,7 @@ public final class PromisesTest {
         fault("factor a 0;", 2, 9);
         fault("factor a 7;", 2, 9);
         fault("factor a 1;factor b 1;factor c 1;factor d 1;factor a 9;", 2, 44);
-        fault(times(41, "risk 1 1 1;"), 2, 440);
+        fault(Desk.times(41, "risk 1 1 1;"), 2, 440);
         fault("factor a 2;band a 0 10000;", 2, 18);
         fault("factor a 2;band a 10001 10000;", 2, 18);
         fault("factor a 2;band a 1 9999;", 2, 20);
@@ -308,23 +253,23 @@ public final class PromisesTest {
 
     private static void named() {
         begin(5);
-        RateOffice x = office("factor a 2;factor abcdef 2;factor z 1;factor zzzzzz 1;");
-        due(x.named(letters("a")), 0);
-        due(x.named(letters("abcdef")), 1);
-        due(x.named(letters("z")), 2);
-        due(x.named(letters("zzzzzz")), 3);
-        due(x.named(letters("b")), -1);
-        due(x.named(letters("abcde")), -1);
+        RateOffice x = Desk.office("factor a 2;factor abcdef 2;factor z 1;factor zzzzzz 1;");
+        due(x.named(Desk.letters("a")), 0);
+        due(x.named(Desk.letters("abcdef")), 1);
+        due(x.named(Desk.letters("z")), 2);
+        due(x.named(Desk.letters("zzzzzz")), 3);
+        due(x.named(Desk.letters("b")), -1);
+        due(x.named(Desk.letters("abcde")), -1);
         due(x.named(1), -1);
         due(x.named(0), -1);
         due(x.named(-1), -1);
-        due(x.named(letters("a") | 1 << 31), -1);
+        due(x.named(Desk.letters("a") | 1 << 31), -1);
         due(new RateOffice().named(0), -1);
     }
 
     private static void turn() {
         begin(6);
-        RateOffice x = office(TWO);
+        RateOffice x = Desk.office(TWO);
         due(x.turn(-1), -1);
         due(x.turn(2), -1);
         due(x.count(7), 0);
@@ -335,33 +280,33 @@ public final class PromisesTest {
         due(x.margin(1, 1, 0), 5000);
         due(x.margin(1, 2, 0), 10000);
         // bands: 50 times as much as is paid, and nothing at all
-        RateOffice b = office("base 1;factor a 2;risk 1 50 1 0;risk 1 0 1 1;");
+        RateOffice b = Desk.office("base 1;factor a 2;risk 1 50 1 0;risk 1 0 1 1;");
         due(b.turn(0), 2);
         due(b.margin(0, 0, 0), 50000);
         due(b.margin(0, 1, 0), 1000);
         // ahead of its band it would be beyond an int: 99999 * 99999 by 9
-        RateOffice big = office("base 1;factor a 1;band a 1 99999;risk 1 99999 1 0;");
+        RateOffice big = Desk.office("base 1;factor a 1;band a 1 99999;risk 1 99999 1 0;");
         due(big.relativity(0, 0, 99999), 10000);
         due(big.turn(0), 0);
         due(big.margin(0, 0, 0), 99999);
         // premiums of 0: its relativity stays
-        RateOffice nil = office("base 1;factor a 1;factor b 1;risk 1 9 1 0 0;");
+        RateOffice nil = Desk.office("base 1;factor a 1;factor b 1;risk 1 9 1 0 0;");
         nil.relativity(0, 0, 9999);
         due(nil.all(1), 0);
         due(nil.turn(0), 0);
         due(nil.margin(0, 0, 0), 9999);
         // trust, downwards below 0, too: r 10000, v 5000 (9999), exposure 1, trust 2
-        RateOffice t = office("base 1000;trust 2;factor a 3;risk 1 500 1 0;risk 1 1500 1 1;risk 1 999 1 2;");
+        RateOffice t = Desk.office("base 1000;trust 2;factor a 3;risk 1 500 1 0;risk 1 1500 1 1;risk 1 999 1 2;");
         due(t.turn(0), 3);
         due(t.margin(0, 0, 0), 8333);
         due(t.margin(0, 1, 0), 11666);
         due(t.margin(0, 2, 0), 9996);
         // v is held by its band ahead of trust: v 1000, not 0: 10000 - 4500
-        RateOffice h = office("trust 1;factor a 1;risk 1 0 1 0;");
+        RateOffice h = Desk.office("trust 1;factor a 1;risk 1 0 1 0;");
         due(h.turn(0), 1);
         due(h.margin(0, 0, 0), 5500);
         // a class counts once
-        RateOffice j = office("base 100;factor a 3;join a 0;risk 1 200 1 0;risk 1 200 1 1;risk 1 50 1 2;");
+        RateOffice j = Desk.office("base 100;factor a 3;join a 0;risk 1 200 1 0;risk 1 200 1 1;risk 1 50 1 2;");
         due(j.turn(0), 2);
         due(j.margin(0, 0, 0), 20000);
         due(j.margin(0, 1, 0), 20000);
@@ -371,7 +316,7 @@ public final class PromisesTest {
 
     private static void round() {
         begin(7);
-        RateOffice x = office(TWO);
+        RateOffice x = Desk.office(TWO);
         due(x.round(0), -1);
         due(x.round(51), -1);
         due(x.round(-1), -1);
@@ -382,7 +327,7 @@ public final class PromisesTest {
         due(x.margin(0, 0, 0), 10000);
         due(x.margin(1, 0, 0), 15000);
         // turns by numbers: the first takes the second's work into account
-        RateOffice y = office(TWO);
+        RateOffice y = Desk.office(TWO);
         y.turn(0);
         y.turn(1);
         y.turn(0);
@@ -399,22 +344,22 @@ public final class PromisesTest {
 
     private static void rebaseAndLevel() {
         begin(8);
-        RateOffice x = office(FLEET);
+        RateOffice x = Desk.office(FLEET);
         // 100 * 400 by 470
         due(x.rebase(), 85);
         due(x.count(2), 85);
         due(x.count(7), 1);
         due(new RateOffice().rebase(), 1000);
-        RateOffice none = office("risk 1 0 1;");
+        RateOffice none = Desk.office("risk 1 0 1;");
         due(none.rebase(), 1);
-        RateOffice most = office("base 1;risk 1 99999 1;risk 1 99999 1;risk 1 99999 1;");
+        RateOffice most = Desk.office("base 1;risk 1 99999 1;risk 1 99999 1;risk 1 99999 1;");
         due(most.rebase(), 99999);
-        RateOffice nil = office("base 1;factor a 1;risk 1 9 1 0;");
+        RateOffice nil = Desk.office("base 1;factor a 1;risk 1 9 1 0;");
         nil.relativity(0, 0, 9999);
         due(nil.rebase(), 1);
-        due(office("base 1;risk 1 9 1;").rebase(), 9);
+        due(Desk.office("base 1;risk 1 9 1;").rebase(), 9);
         begin(9);
-        RateOffice l = office("base 101;factor a 3;factor b 2;join a 0;risk 1 1 1 0 0;risk 2 1 1 1 1;risk 2 1 1 2 1;");
+        RateOffice l = Desk.office("base 101;factor a 3;factor b 2;join a 0;risk 1 1 1 0 0;risk 2 1 1 1 1;risk 2 1 1 2 1;");
         l.relativity(0, 0, 12345);
         l.relativity(0, 2, 20000);
         l.relativity(1, 1, 5000);
@@ -426,38 +371,38 @@ public final class PromisesTest {
         due(l.margin(1, 1, 0), 10000);
         due(l.count(7), 4);
         // bands: 50000 by 0.1 would be 500000; the first of two with as much
-        RateOffice h = office("factor a 2;risk 1 1 1 0;risk 1 1 1 1;");
+        RateOffice h = Desk.office("factor a 2;risk 1 1 1 0;risk 1 1 1 1;");
         h.relativity(0, 0, 1000);
         h.relativity(0, 1, 50000);
         due(h.level(), 100);
         due(h.margin(0, 0, 0), 10000);
         due(h.margin(0, 1, 0), 50000);
-        RateOffice low = office("base 1;factor a 2;band a 9000 10000;risk 1 1 1 0;");
+        RateOffice low = Desk.office("base 1;factor a 2;band a 9000 10000;risk 1 1 1 0;");
         low.relativity(0, 0, 9000);
         due(low.level(), 1);
         due(low.margin(0, 1, 0), 10000);
         // by the least relativity there is: 99999 by 10000, and 3 times 10000
-        RateOffice least = office("base 99999;factor a 2;band a 1 99999;risk 2 1 1 0;risk 1 1 1 1;");
+        RateOffice least = Desk.office("base 99999;factor a 2;band a 1 99999;risk 2 1 1 0;risk 1 1 1 1;");
         least.relativity(0, 0, 1);
         least.relativity(0, 1, 3);
         due(least.level(), 9);
         due(least.margin(0, 0, 0), 10000);
         due(least.margin(0, 1, 0), 30000);
         // without risks nothing happens
-        RateOffice e = office("factor a 2;");
+        RateOffice e = Desk.office("factor a 2;");
         e.relativity(0, 0, 2000);
         due(e.level(), 1000);
         due(e.margin(0, 0, 0), 2000);
         due(e.count(7), 2);
-        due(office("base 7;risk 1 1 1;").level(), 7);
-        RateOffice top = office("base 99999;factor a 1;risk 1 1 1 0;");
+        due(Desk.office("base 7;risk 1 1 1;").level(), 7);
+        RateOffice top = Desk.office("base 99999;factor a 1;risk 1 1 1 0;");
         top.relativity(0, 0, 20000);
         due(top.level(), 99999);
     }
 
     private static void relativityAndClaims() {
         begin(10);
-        RateOffice x = office("factor a 3;join a 0;band a 5000 20000;risk 1 5 6 0;");
+        RateOffice x = Desk.office("factor a 3;join a 0;band a 5000 20000;risk 1 5 6 0;");
         due(x.relativity(0, 1, 5000), 10000);
         due(x.relativity(0, 0, 20000), 5000);
         due(x.margin(0, 1, 0), 20000);
@@ -482,7 +427,7 @@ public final class PromisesTest {
 
     private static void riskAndDrop() {
         begin(12);
-        RateOffice x = office("factor a 3;factor b 6;");
+        RateOffice x = Desk.office("factor a 3;factor b 6;");
         due(x.risk(5, 6, 7, 2 + 8 * 5), 0);
         due(x.of(0, 0), 5);
         due(x.of(0, 1), 6);
@@ -512,7 +457,7 @@ public final class PromisesTest {
         due(x.count(1), 40);
         due(x.count(7), 20);
         begin(13);
-        RateOffice d = office(CAPS);
+        RateOffice d = Desk.office(CAPS);
         due(d.drop(3), -1);
         due(d.drop(-1), -1);
         due(d.drop(1), 2);
@@ -526,7 +471,7 @@ public final class PromisesTest {
 
     private static void join() {
         begin(14);
-        RateOffice x = office("factor a 4;factor b 1;risk 1 100 1 0 0;");
+        RateOffice x = Desk.office("factor a 4;factor b 1;risk 1 100 1 0 0;");
         x.relativity(0, 0, 11000);
         x.relativity(0, 1, 12000);
         x.relativity(0, 2, 13000);
@@ -557,7 +502,7 @@ public final class PromisesTest {
 
     private static void settings() {
         begin(15);
-        RateOffice x = office(FLEET);
+        RateOffice x = Desk.office(FLEET);
         due(x.cap(0), 250);
         due(x.cap(999), 0);
         due(x.cap(1000), -1);
@@ -588,13 +533,13 @@ public final class PromisesTest {
         due(x.count(11), 0);
         due(x.count(7), 8);
         // what goes off is rounded down: 101 less 50
-        RateOffice o = office("base 101;fleet 1 500;risk 1 1 1;");
+        RateOffice o = Desk.office("base 101;fleet 1 500;risk 1 1 1;");
         due(o.of(0, 3), 51);
     }
 
     private static void factor() {
         begin(18);
-        RateOffice x = office(TWO);
+        RateOffice x = Desk.office(TWO);
         due(x.factor(1, 0), 3);
         due(x.factor(0, 1), 1000);
         due(x.factor(0, 2), 50000);
@@ -607,21 +552,21 @@ public final class PromisesTest {
         x.claims(2, 99);
         due(x.factor(1, 4), 1);
         // one that doesn't differ at all is farthest off, too; the empty one is none
-        RateOffice y = office("base 100;factor a 3;risk 1 100 1 1;");
+        RateOffice y = Desk.office("base 100;factor a 3;risk 1 100 1 1;");
         due(y.factor(0, 4), 1);
         y.drop(0);
         due(y.factor(0, 4), -2);
-        due(thrown(y, 0, 4), 0);
-        due(thrown(y, 1, 0), 1);
-        due(thrown(y, -1, 0), 1);
-        due(thrown(y, 1, 5), 1);
-        due(thrown(y, 0, 5), 2);
-        due(thrown(y, 0, -1), 2);
+        due(Desk.thrown(y, 0, 4), 0);
+        due(Desk.thrown(y, 1, 0), 1);
+        due(Desk.thrown(y, -1, 0), 1);
+        due(Desk.thrown(y, 1, 5), 1);
+        due(Desk.thrown(y, 0, 5), 2);
+        due(Desk.thrown(y, 0, -1), 2);
     }
 
     private static void margin() {
         begin(19);
-        RateOffice x = office(TWO);
+        RateOffice x = Desk.office(TWO);
         x.join(1, 1);
         long[] want = {10000, 1, 2, 100, 200, 2, 1, 0};
         for (int what = 0; what < 8; what++) {
@@ -635,13 +580,13 @@ public final class PromisesTest {
         due(x.margin(2, 0, 0), -2000);
         due(x.margin(-1, 0, 0), -2000);
         // balance: 1000 * 50 is no more than 50 * 1000, by one more it is; the empty one does
-        RateOffice b = office("base 950;bound 50;factor a 2;risk 1 1000 1 0;");
+        RateOffice b = Desk.office("base 950;bound 50;factor a 2;risk 1 1000 1 0;");
         due(b.margin(0, 0, 7), 1);
         due(b.margin(0, 1, 7), 1);
         b.claims(0, 1001);
         due(b.margin(0, 0, 7), 0);
         // at the ends of the band: more (less) is paid
-        RateOffice e = office("base 1000;factor a 1;band a 5000 20000;risk 1 100 1 0;");
+        RateOffice e = Desk.office("base 1000;factor a 1;band a 5000 20000;risk 1 100 1 0;");
         due(e.margin(0, 0, 7), 0);
         e.relativity(0, 0, 5000);
         due(e.margin(0, 0, 7), 1);
@@ -655,7 +600,7 @@ public final class PromisesTest {
 
     private static void ofAndAll() {
         begin(20);
-        RateOffice x = office(CAPS);
+        RateOffice x = Desk.office(CAPS);
         long[] want = {2, 0, 100, 200, 110, 10, 0};
         for (int what = 0; what < 7; what++) {
             due(x.of(2, what), want[what]);
@@ -668,12 +613,12 @@ public final class PromisesTest {
         due(x.of(-1, 0), -999999999);
         due(x.of(0, Integer.MAX_VALUE), -999999999);
         // downwards each time: 99 * 0.9999 = 98, 98 * 0.9999 = 97
-        RateOffice d = office("base 99;factor a 1;factor b 1;risk 1 1 1 0 0;");
+        RateOffice d = Desk.office("base 99;factor a 1;factor b 1;risk 1 1 1 0 0;");
         d.relativity(0, 0, 9999);
         d.relativity(1, 0, 9999);
         due(d.of(0, 3), 97);
         // the greatest there can be
-        RateOffice m = office("base 99999;factor a 1;factor b 1;factor c 1;factor d 1;band a 1 99999;band b 1 99999;"
+        RateOffice m = Desk.office("base 99999;factor a 1;factor b 1;factor c 1;factor d 1;band a 1 99999;band b 1 99999;"
                 + "band c 1 99999;band d 1 99999;risk 99 0 1 0 0 0 0;");
         for (int f = 0; f < 4; f++) {
             m.relativity(f, 0, 99999);
@@ -684,7 +629,7 @@ public final class PromisesTest {
         }
         due(m.of(0, 3), p);
         begin(21);
-        RateOffice y = office(TWO);
+        RateOffice y = Desk.office(TWO);
         long[] all = {400, 400, 400, 200, 4, 400};
         for (int what = 0; what < 6; what++) {
             due(y.all(what), all[what]);
@@ -701,7 +646,7 @@ public final class PromisesTest {
 
     private static void fitted() {
         begin(22);
-        RateOffice x = office("base 100;bound 0;factor a 2;risk 1 200 1 0;risk 1 50 1 1;");
+        RateOffice x = Desk.office("base 100;bound 0;factor a 2;risk 1 200 1 0;risk 1 50 1 1;");
         due(x.fitted(0), -2);
         due(x.fitted(1), 1);
         due(x.fitted(100), 1);
@@ -712,13 +657,13 @@ public final class PromisesTest {
         x.round(1);
         due(x.fitted(0), 0);
         // 10000 * 50003 by 50000 is 10000, downwards: it stays where it is, 3 off
-        RateOffice y = office("base 50000;bound 0;factor a 1;risk 1 50003 1 0;");
+        RateOffice y = Desk.office("base 50000;bound 0;factor a 1;risk 1 50003 1 0;");
         due(y.fitted(100), -2);
         y.claims(0, 50005);
         due(y.fitted(100), 1);
         due(new RateOffice().fitted(0), 0);
         // trust goes step by step: after n rounds of its own it is fitted in n, not in one less
-        RateOffice t = office("base 1000;trust 3;bound 9;factor a 2;risk 1 2000 1 0;risk 2 999 1 1;");
+        RateOffice t = Desk.office("base 1000;trust 3;bound 9;factor a 2;risk 1 2000 1 0;risk 2 999 1 1;");
         int n = t.fitted(100);
         due(n > 3 ? 1 : 0, 1);
         due(t.fitted(n), n);
@@ -726,7 +671,7 @@ public final class PromisesTest {
         due(t.round(n - 1) > 0 ? 1 : 0, 1);
         due(t.round(1), 0);
         begin(23);
-        RateOffice u = office(TWO);
+        RateOffice u = Desk.office(TWO);
         due(u.unbalanced(), 2);
         u.turn(1);
         due(u.unbalanced(), 2);
@@ -738,13 +683,13 @@ public final class PromisesTest {
 
     private static void capping() {
         begin(24);
-        RateOffice x = office(CAPS);
+        RateOffice x = Desk.office(CAPS);
         // 110 + 180 + 110 from 11000 on
         due(x.offBalance(), 11000);
         x.claims(0, 299);
         due(x.offBalance(), 10900);
         // the greatest f there is: 1 * 9.9999
-        RateOffice e = office("base 1;cap 999;risk 1 9 9;");
+        RateOffice e = Desk.office("base 1;cap 999;risk 1 9 9;");
         due(e.offBalance(), 90000);
         e.claims(0, 10);
         due(e.offBalance(), -2);
@@ -759,14 +704,14 @@ public final class PromisesTest {
         due(x.changes(4), -1);
         due(x.changes(-1), -1);
         // exactly at an end nothing is held: 100 is 111 less 11; the other ends at 99
-        RateOffice h = office("base 100;cap 100;risk 1 99999 111;risk 1 1 90;");
+        RateOffice h = Desk.office("base 100;cap 100;risk 1 99999 111;risk 1 1 90;");
         due(h.offBalance(), -2);
         due(h.of(0, 4), 100);
         due(h.of(1, 4), 99);
         due(h.changes(2), 0);
         due(h.changes(3), 1);
         // without any way to go, it is held from the side it would leave by
-        RateOffice z = office("base 100;cap 0;risk 1 99999 90;risk 1 1 110;risk 1 1 100;");
+        RateOffice z = Desk.office("base 100;cap 0;risk 1 99999 90;risk 1 1 110;risk 1 1 100;");
         due(z.offBalance(), -2);
         due(z.changes(0), 0);
         due(z.changes(1), 0);
@@ -805,7 +750,7 @@ public final class PromisesTest {
 
     private static void shareAndEnds() {
         begin(26);
-        RateOffice x = office(TWO);
+        RateOffice x = Desk.office(TWO);
         due(x.share(0, 0), 750);
         due(x.share(0, 1), 250);
         due(x.share(1, 2), 0);
@@ -815,13 +760,13 @@ public final class PromisesTest {
         due(x.share(2, 0), -1);
         due(x.share(-1, 0), -1);
         due(x.share(0, -1), -1);
-        RateOffice e = office("factor a 1;");
+        RateOffice e = Desk.office("factor a 1;");
         due(e.share(0, 0), -2);
         due(e.share(0, 1), -1);
-        due(office("base 1;factor a 2;risk 2 1 1 0;risk 1 1 1 1;").share(0, 0), 666);
-        due(office("base 1;factor a 1;risk 1 1 1 0;").share(0, 0), 1000);
+        due(Desk.office("base 1;factor a 2;risk 2 1 1 0;risk 1 1 1 1;").share(0, 0), 666);
+        due(Desk.office("base 1;factor a 1;risk 1 1 1 0;").share(0, 0), 1000);
         begin(27);
-        RateOffice b = office("factor a 4;band a 5000 20000;");
+        RateOffice b = Desk.office("factor a 4;band a 5000 20000;");
         b.relativity(0, 0, 5000);
         b.relativity(0, 3, 20000);
         due(b.atEnd(0, 0), 1);
@@ -836,11 +781,11 @@ public final class PromisesTest {
         due(b.atEnd(0, -1), -1);
         due(b.atEnd(1, 0), -1);
         due(b.atEnd(-1, 0), -1);
-        RateOffice both = office("factor a 2;band a 10000 10000;");
+        RateOffice both = Desk.office("factor a 2;band a 10000 10000;");
         due(both.atEnd(0, 0), 2);
         due(both.atEnd(0, 1), 2);
         begin(28);
-        RateOffice f = office(FLEET);
+        RateOffice f = Desk.office(FLEET);
         // 300 less 300 * 0.336 (100), and 200, are 400
         due(f.mostOff(), 336);
         due(f.count(11), 100);
@@ -860,7 +805,7 @@ public final class PromisesTest {
 
     private static void stepsAndSwings() {
         begin(29);
-        RateOffice x = office("base 101;fleet 1 500;factor a 2;factor b 2;risk 1 1 1 1 1;");
+        RateOffice x = Desk.office("base 101;fleet 1 500;factor a 2;factor b 2;risk 1 1 1 1 1;");
         x.relativity(0, 1, 15000);
         x.relativity(1, 1, 5000);
         due(x.step(0, 0), 101);
@@ -872,7 +817,7 @@ public final class PromisesTest {
         due(x.step(1, 0), -1);
         due(x.step(-1, 0), -1);
         begin(30);
-        RateOffice s = office("base 100;factor a 4;factor b 1;risk 1 1 1 3 0;");
+        RateOffice s = Desk.office("base 100;factor a 4;factor b 1;risk 1 1 1 3 0;");
         due(s.swing(0, 0, 0), 0);
         due(s.swing(0, 0, 1), 0);
         s.relativity(0, 1, 20000);
@@ -895,7 +840,7 @@ public final class PromisesTest {
 
     private static void ratioAndWorst() {
         begin(31);
-        RateOffice x = office(TWO);
+        RateOffice x = Desk.office(TWO);
         due(x.ratio(1, 0), 1500);
         due(x.ratio(1, 1), 500);
         due(x.ratio(1, 2), -2);
@@ -905,11 +850,11 @@ public final class PromisesTest {
         due(x.ratio(1, -1), -1);
         due(x.ratio(2, 0), -1);
         due(x.ratio(-1, 0), -1);
-        due(office("base 1;factor a 1;risk 3 99999 1 0;").ratio(0, 0), 33333000);
-        due(office("base 1;factor a 1;risk 3 2 1 0;").ratio(0, 0), 666);
-        due(office("base 1;factor a 1;risk 1 2 1 0;").ratio(0, 0), 2000);
+        due(Desk.office("base 1;factor a 1;risk 3 99999 1 0;").ratio(0, 0), 33333000);
+        due(Desk.office("base 1;factor a 1;risk 3 2 1 0;").ratio(0, 0), 666);
+        due(Desk.office("base 1;factor a 1;risk 1 2 1 0;").ratio(0, 0), 2000);
         begin(32);
-        RateOffice y = office(TWO);
+        RateOffice y = Desk.office(TWO);
         // a balances; of b both are off by 100: the first
         due(y.worst(), 8);
         y.claims(2, 99);
@@ -920,7 +865,7 @@ public final class PromisesTest {
         due(y.worst(), 0);
         due(new RateOffice().worst(), -2);
         // what is farthest off, but at the end of its band, balances
-        RateOffice e = office("base 1000;factor a 2;risk 1 1 1 0;risk 1 900 1 1;");
+        RateOffice e = Desk.office("base 1000;factor a 2;risk 1 1 1 0;risk 1 900 1 1;");
         due(e.worst(), 0);
         e.relativity(0, 0, 1000);
         due(e.worst(), 1);
@@ -930,7 +875,7 @@ public final class PromisesTest {
 
     private static void without() {
         begin(36);
-        RateOffice x = office(TWO);
+        RateOffice x = Desk.office(TWO);
         due(x.withoutFactor(0, 0), 200);
         x.turn(1);
         due(x.all(3), 100);
@@ -954,13 +899,13 @@ public final class PromisesTest {
         due(x.withoutFactor(2, 0), -1);
         due(x.withoutFactor(-1, 0), -1);
         begin(37);
-        RateOffice j = office("base 100;factor a 3;risk 1 300 1 0;risk 1 100 1 1;risk 1 110 1 2;");
+        RateOffice j = Desk.office("base 100;factor a 3;risk 1 300 1 0;risk 1 100 1 1;risk 1 110 1 2;");
         // 0 and 1: off by 200, and 10; 1 and 2: 200, and 10: the first
         due(j.bestJoin(0, 0), 0);
         // behind rounds all balance, whichever are joined
         due(j.bestJoin(0, 50), 0);
         // 0 and 1: off by 300, and 100; 1 and 2: 200, and 0
-        RateOffice k = office("base 100;factor a 4;risk 1 300 1 0;risk 1 200 1 1;risk 1 0 1 2;");
+        RateOffice k = Desk.office("base 100;factor a 4;risk 1 300 1 0;risk 1 200 1 1;risk 1 0 1 2;");
         due(k.bestJoin(0, 0), 1);
         k.join(0, 1);
         due(k.bestJoin(0, 0), 0);
@@ -972,10 +917,10 @@ public final class PromisesTest {
         due(k.bestJoin(1, 0), -1);
         due(k.bestJoin(-1, 0), -1);
         due(k.count(7), 3);
-        due(office("factor a 1;").bestJoin(0, 0), -2);
-        due(office("factor a 3;").bestJoin(0, 5), 0);
+        due(Desk.office("factor a 1;").bestJoin(0, 0), -2);
+        due(Desk.office("factor a 3;").bestJoin(0, 5), 0);
         begin(38);
-        RateOffice r = office(CAPS);
+        RateOffice r = Desk.office(CAPS);
         r.claims(1, 150);
         due(r.withoutRisk(2, 0), 225);
         // the rounds bring 200 to 450 by relativities, so that the base stays
@@ -993,7 +938,7 @@ public final class PromisesTest {
 
     private static void quoteAndKinds() {
         begin(39);
-        RateOffice x = office("base 101;fleet 3 500;factor a 3;factor b 2;");
+        RateOffice x = Desk.office("base 101;fleet 3 500;factor a 3;factor b 2;");
         x.relativity(0, 2, 15000);
         x.relativity(1, 1, 5000);
         due(x.quote(1, 0), 101);
@@ -1026,12 +971,12 @@ public final class PromisesTest {
         due(n.kinds(1), 1);
         n.risk(1, 1, 1, 0);
         due(n.kinds(1), 0);
-        due(office("factor a 6;factor b 6;factor c 6;factor d 6;").kinds(1), 1296);
+        due(Desk.office("factor a 6;factor b 6;factor c 6;factor d 6;").kinds(1), 1296);
     }
 
     private static void chance() {
         begin(41);
-        RateOffice x = office("base 100;bound 0;seed 7;factor a 2;risk 1 100 1 0;risk 1 100 1 1;");
+        RateOffice x = Desk.office("base 100;bound 0;seed 7;factor a 2;risk 1 100 1 0;risk 1 100 1 1;");
         // from 7: 1282168116 (by 65536: 19564, an even one: risk 0), 642666333 (9806, modulo 1000: 806)
         due((7L * 1103515245 + 12345) & 0x7fffffff, 1282168116);
         due((1282168116L * 1103515245 + 12345) & 0x7fffffff, 642666333);
@@ -1066,8 +1011,8 @@ public final class PromisesTest {
 
     private static void undoAndImages() {
         begin(42);
-        RateOffice x = office("base 100;factor a 3;risk 1 200 100 0;risk 2 100 100 1;");
-        String before = picture(x);
+        RateOffice x = Desk.office("base 100;factor a 3;risk 1 200 100 0;risk 2 100 100 1;");
+        String before = Desk.picture(x);
         x.turn(0);
         x.round(2);
         x.rebase();
@@ -1084,29 +1029,29 @@ public final class PromisesTest {
         for (int left = 11; left >= 0; left--) {
             due(x.undo(), left);
         }
-        due(before.equals(picture(x)) ? 1 : 0, 1);
+        due(before.equals(Desk.picture(x)) ? 1 : 0, 1);
         due(x.undo(), -1);
         // each one by itself
         String[] pictures = new String[26];
         for (int i = 0; i < 25; i++) {
-            pictures[i] = picture(x);
+            pictures[i] = Desk.picture(x);
             x.claims(0, 1000 + i);
             x.claims(0, -1);
             due(x.count(7), Math.min(20, i + 1));
         }
         for (int i = 24; i >= 5; i--) {
             due(x.undo(), i - 5);
-            due(pictures[i].equals(picture(x)) ? 1 : 0, 1);
+            due(pictures[i].equals(Desk.picture(x)) ? 1 : 0, 1);
         }
         due(x.undo(), -1);
         due(x.of(0, 1), 1004);
         begin(43);
-        RateOffice y = office("base 100;factor a 3;risk 1 200 100 0;risk 2 100 100 1;");
+        RateOffice y = Desk.office("base 100;factor a 3;risk 1 200 100 0;risk 2 100 100 1;");
         due(y.back(), -1);
         y.cap(7);
         due(y.keep(), 2);
         due(y.count(7), 1);
-        String kept = picture(y);
+        String kept = Desk.picture(y);
         y.turn(0);
         y.join(0, 0);
         y.drop(1);
@@ -1116,13 +1061,13 @@ public final class PromisesTest {
         y.rebase();
         begin(44);
         due(y.back(), 2);
-        due(kept.equals(picture(y)) ? 1 : 0, 1);
+        due(kept.equals(Desk.picture(y)) ? 1 : 0, 1);
         due(y.count(7), 0);
         due(y.undo(), -1);
         y.drop(0);
         // it stays, as it was
         due(y.back(), 2);
-        due(kept.equals(picture(y)) ? 1 : 0, 1);
+        due(kept.equals(Desk.picture(y)) ? 1 : 0, 1);
         y.drop(0);
         due(y.keep(), 1);
         y.drop(0);
@@ -1130,27 +1075,9 @@ public final class PromisesTest {
         due(new RateOffice().keep(), 0);
     }
 
-    private static String picture(RateOffice x) {
-        StringBuilder s = new StringBuilder();
-        for (int what : new int[] {0, 1, 2, 3, 4, 5, 6, 9, 10, 11}) {
-            s.append(x.count(what)).append(' ');
-        }
-        for (int r = 0; r < x.count(1); r++) {
-            for (int what = 0; what < 7; what++) {
-                s.append(x.of(r, what)).append(' ');
-            }
-        }
-        for (int l = 0; l < 3; l++) {
-            for (int what = 0; what < 8; what++) {
-                s.append(x.margin(0, l, what)).append(' ');
-            }
-        }
-        return s.toString();
-    }
-
     private static void count() {
         begin(45);
-        RateOffice x = office("factor a 3;factor b 6;join b 0;join b 1;base 5;bound 6;cap 7;trust 8;fleet 9 10;risk 1 1 1 0 2;");
+        RateOffice x = Desk.office("factor a 3;factor b 6;join b 0;join b 1;base 5;bound 6;cap 7;trust 8;fleet 9 10;risk 1 1 1 0 2;");
         int[] want = {2, 1, 5, 6, 7, 7, 5, 0, 0, 8, 9, 10};
         for (int what = 0; what < want.length; what++) {
             due(x.count(what), want[what]);

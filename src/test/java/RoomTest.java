@@ -38,23 +38,12 @@ public final class RoomTest {
 
     private static RateOffice full() {
         RateOffice x = new RateOffice();
-        tell(x, "factor a 6;factor b 6;factor c 6;factor d 6;trust 7;bound 0;base 777;");
+        Desk.tell(x, "factor a 6;factor b 6;factor c 6;factor d 6;trust 7;bound 0;base 777;");
         for (int r = 0; r < 40; r++) {
             int levels = r % 6 | r * 5 % 6 << 3 | r / 3 % 6 << 6 | r / 7 % 6 << 9;
             x.risk(1 + r % 9, r * 2477 % 9000, 500 + r * 97, levels);
         }
         return x;
-    }
-
-    private static void tell(RateOffice x, String text) {
-        for (int i = 0; i < text.length(); i += 20) {
-            int[] w = new int[5];
-            for (int k = 0; k < 20; k++) {
-                w[k / 4] = w[k / 4] << 8 | (i + k < text.length() ? text.charAt(i + k) : ' ');
-            }
-            x.feed(w[0], w[1], w[2], w[3], w[4]);
-        }
-        x.text(text.length());
     }
 
     /** Each kind of call once, none of them throwing. */
