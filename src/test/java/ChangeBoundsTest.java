@@ -57,23 +57,26 @@ public final class ChangeBoundsTest {
         return Desk.office("base 100;trust 999;bound 0;factor a 2;factor b 2;risk 1 900 100 0 0;risk 1 10 100 1 0;");
     }
 
+    /** What so many rounds of it come to, turn by turn. */
+    private static String turned(int rounds) {
+        RateOffice x = slow();
+        for (int n = 0; n < rounds; n++) {
+            x.turn(0);
+            x.turn(1);
+        }
+        return Desk.picture(x);
+    }
+
     private static void round() {
         SHEET.promise(7);
         SHEET.sentence("n 1 .. 50 ROUNDS: how many MARGINS (CLASSES that aren't EMPTY) don't BALANCE then");
-        RateOffice turns = slow();
-        String[] pictures = new String[52];
-        for (int n = 1; n <= 51; n++) {
-            turns.turn(0);
-            turns.turn(1);
-            pictures[n] = Desk.picture(turns);
-        }
-        SHEET.differ(pictures[49], pictures[50]);
-        SHEET.differ(pictures[50], pictures[51]);
+        SHEET.differ(turned(49), turned(50));
+        SHEET.differ(turned(50), turned(51));
         for (int n : new int[] {1, 2, 49, 50}) {
             RateOffice x = slow();
             due(x.round(n), 3);
             due(x.count(7), 1);
-            SHEET.same(Desk.picture(x), pictures[n]);
+            SHEET.same(Desk.picture(x), turned(n));
         }
         // empty ones are none of them
         due(Desk.office("factor a 6;factor b 6;bound 0;").round(50), 0);
@@ -244,11 +247,7 @@ public final class ChangeBoundsTest {
         SHEET.same(Desk.picture(y), Desk.picture(Desk.office(TWO)));
 
         SHEET.sentence("-2: there are 40.");
-        RateOffice full = Desk.office(TWO);
-        for (int r = 2; r < 40; r++) {
-            due(full.risk(1, r, 1, r % 3), r);
-        }
-        String picture = Desk.picture(full);
+        RateOffice full = full();
         due(full.risk(1, 1, 1, 0), -2);
         due(full.risk(99, 99999, 99999, 0), -2);
         // NONE goes first
@@ -258,12 +257,21 @@ public final class ChangeBoundsTest {
         due(full.risk(1, 1, 1, 3), -1);
         due(full.count(1), 40);
         due(full.count(7), 20);
-        SHEET.same(Desk.picture(full), picture);
-        due(full.drop(7), 39);
-        due(full.risk(1, 1, 1, 0), 39);
-        due(full.risk(1, 1, 1, 0), -2);
+        SHEET.same(Desk.picture(full), Desk.picture(full()));
+        RateOffice again = full();
+        due(again.drop(7), 39);
+        due(again.risk(1, 1, 1, 0), 39);
+        due(again.risk(1, 1, 1, 0), -2);
         due(Desk.office(Desk.times(40, "risk 1 1 1;")).risk(1, 1, 1, 0), -2);
         due(Desk.office(Desk.times(39, "risk 1 1 1;")).risk(1, 1, 1, 0), 39);
+    }
+
+    private static RateOffice full() {
+        RateOffice x = Desk.office(TWO);
+        for (int r = 2; r < 40; r++) {
+            due(x.risk(1, r, 1, r % 3), r);
+        }
+        return x;
     }
 
     private static void drop() {
@@ -430,6 +438,11 @@ public final class ChangeBoundsTest {
         due(x.fleet(99, 0), 1);
         due(x.count(7), 5);
         due(new RateOffice().fleet(1, 500), 0);
+        // those that are gone are none of them; as many as there can be
+        RateOffice gone = Desk.office("risk 1 1 1;risk 2 1 1;");
+        gone.drop(1);
+        due(gone.fleet(1, 0), 1);
+        due(Desk.office(Desk.times(40, "risk 1 1 1;")).fleet(1, 0), 40);
 
         SHEET.sentence("NONE: no such ones.");
         for (int v : new int[] {0, 100, -1, Integer.MIN_VALUE, Integer.MAX_VALUE}) {

@@ -59,7 +59,10 @@ final class Desk {
         }
     }
 
-    /** All that can be asked without changing anything, but for the tape and what can be undone. */
+    /**
+     * All that an office holds, but for its tape and what can be undone. It takes some 100 calls of the 512 that an
+     * object is good for, more with many risks.
+     */
     static String picture(RateOffice x) {
         StringBuilder s = new StringBuilder();
         for (int what : new int[] {0, 1, 2, 3, 4, 5, 6, 9, 10, 11}) {
@@ -68,25 +71,33 @@ final class Desk {
         for (int what = 0; what < 6; what++) {
             s.append(x.all(what)).append(' ');
         }
-        for (int f = 0; f < x.count(0); f++) {
-            s.append("\nfactor ").append(f).append(':');
-            for (int what = 0; what < 5; what++) {
-                s.append(' ').append(x.factor(f, what));
-            }
-            for (int l = 0; l < x.factor(f, 0); l++) {
-                s.append("\nlevel ").append(l).append(':');
-                for (int what = 0; what < 8; what++) {
-                    s.append(' ').append(x.margin(f, l, what));
-                }
-            }
+        int factors = x.count(0);
+        for (int f = 0; f < factors; f++) {
+            addFactor(s, x, f);
         }
-        for (int r = 0; r < x.count(1); r++) {
+        int risks = x.count(1);
+        for (int r = 0; r < risks; r++) {
             s.append("\nrisk ").append(r).append(':');
-            for (int what = 0; what < 6 + x.count(0); what++) {
-                s.append(' ').append(x.of(r, what));
+            // CHANGE, what 5, is no more than CAPPED and OLD.
+            for (int what = 0; what < 6 + factors; what++) {
+                s.append(' ').append(what == 5 ? 0 : x.of(r, what));
             }
         }
         // What a text alone sets and nothing else shows: the seed.
         return s.append("\nchance: ").append(x.chance(-1, 5, 500, 0, 0)).toString();
+    }
+
+    private static void addFactor(StringBuilder s, RateOffice x, int factor) {
+        int levels = x.factor(factor, 0);
+        s.append("\nfactor ").append(factor).append(": ").append(levels);
+        for (int what = 1; what < 5; what++) {
+            s.append(' ').append(x.factor(factor, what));
+        }
+        for (int l = 0; l < levels; l++) {
+            s.append("\nlevel ").append(l).append(':');
+            for (int what = 0; what < 8; what++) {
+                s.append(' ').append(x.margin(factor, l, what));
+            }
+        }
     }
 }

@@ -6,6 +6,7 @@ public final class KeepBoundsTest {
     private static final Sheet SHEET = new Sheet("KeepBoundsTest");
 
     public static void main(String[] args) {
+        manyCalls();
         canBeUndone();
         atMostTwenty();
         imageKeeps();
@@ -49,6 +50,31 @@ public final class KeepBoundsTest {
         return x;
     }
 
+    private static void manyCalls() {
+        SHEET.beginning();
+        SHEET.sentence("An object is used for at most 512 calls after it has been made");
+        RateOffice x = new RateOffice();
+        for (int call = 1; call <= 512; call++) {
+            due(x.cap(call), call == 1 ? 250 : call - 1);
+        }
+        RateOffice y = new RateOffice();
+        for (int call = 1; call <= 510; call += 2) {
+            due(y.fleet(1 + call % 99, call % 501), 0);
+            due(y.undo(), 0);
+        }
+        due(y.count(10), 99);
+        due(y.count(11), 0);
+    }
+
+    /** The first ones of all changes, behind each other. */
+    private static RateOffice changed(int many) {
+        RateOffice x = ready();
+        for (int i = 0; i < many; i++) {
+            CHANGES[i].on(x);
+        }
+        return x;
+    }
+
     private static void canBeUndone() {
         SHEET.terms(4);
         SHEET.sentence("Each call of turn, round, rebase, level, relativity, claims, risk, drop, join, cap, trust, fleet"
@@ -62,17 +88,14 @@ public final class KeepBoundsTest {
             due(x.undo(), 1);
             SHEET.same(NAMES[i] + Desk.picture(x), NAMES[i] + before);
         }
-        // all of them behind each other
-        RateOffice x = ready();
-        List<String> pictures = new ArrayList<>();
-        for (Call change : CHANGES) {
-            pictures.add(Desk.picture(x));
-            change.on(x);
-        }
-        due(x.count(7), CHANGES.length + 1);
-        for (int i = CHANGES.length - 1; i >= 0; i--) {
-            due(x.undo(), i + 1);
-            SHEET.same(Desk.picture(x), pictures.get(i));
+        // all of them behind each other, then the latest back to each one
+        for (int done = 0; done <= CHANGES.length; done++) {
+            RateOffice x = changed(CHANGES.length);
+            due(x.count(7), CHANGES.length + 1);
+            for (int i = CHANGES.length; i > done; i--) {
+                due(x.undo(), i);
+            }
+            SHEET.same(Desk.picture(x), Desk.picture(changed(done)));
         }
         // what changes nothing, but isn't refused, can be undone, too
         Call[] idle = {y -> y.turn(0), y -> y.round(50), y -> y.rebase(), y -> y.level(),
@@ -82,8 +105,8 @@ public final class KeepBoundsTest {
         for (int i = 0; i < idle.length; i++) {
             SHEET.holds(idle[i].on(same) >= 0, "idle call " + i + " is refused");
             due(same.count(7), i + 1);
-            SHEET.same(Desk.picture(same), before);
         }
+        SHEET.same(Desk.picture(same), before);
         for (int left = idle.length - 1; left >= 0; left--) {
             due(same.undo(), left);
         }
@@ -109,8 +132,8 @@ public final class KeepBoundsTest {
         // once more round: some undone, others come, more than twenty in all, again and again
         List<Long> past = new ArrayList<>();
         int next = 2000;
-        for (int i = 0; i < 200; i++) {
-            if (i % 7 < 4 + i / 50 % 2) {
+        for (int i = 0; i < 110; i++) {
+            if (i % 45 < 30) {
                 past.add(x.of(0, 1));
                 if (past.size() > 20) {
                     past.remove(0);
@@ -201,26 +224,16 @@ public final class KeepBoundsTest {
         return x;
     }
 
-    /** All that an office tells from now on, down to what it keeps behind what is seen. */
-    private static String trail(RateOffice x) {
-        StringBuilder s = new StringBuilder();
-        s.append(x.count(7)).append(' ').append(x.count(8)).append(' ').append(x.fault(0)).append(' ').append(x.fault(1));
-        s.append(Desk.picture(x));
-        for (int i = 0; i < 21; i++) {
-            int left = x.undo();
-            s.append("\nundo: ").append(left);
-            if (left >= 0) {
-                s.append(Desk.picture(x));
-            }
-        }
-        s.append("\nback: ").append(x.back()).append(Desk.picture(x));
-        return s.append("\ntext: ").append(x.text(6)).append(Desk.picture(x)).toString();
-    }
-
     private static void refused(long want, Call call) {
-        RateOffice x = laden();
-        due(call.on(x), want);
-        SHEET.same(trail(x), trail(laden()));
+        RateOffice faulty = laden();
+        due(call.on(faulty), want);
+        due(faulty.fault(0), 3);
+        due(faulty.fault(1), 6);
+        SHEET.sameTrail(() -> {
+            RateOffice x = laden();
+            call.on(x);
+            return x;
+        }, KeepBoundsTest::laden);
     }
 
     private static void refused() {
@@ -254,28 +267,40 @@ public final class KeepBoundsTest {
         refused(-1, x -> x.quote(100, 0));
         refused(-1, x -> x.chance(0, 61, 1, 1, 0));
         // of 40 risks one more
-        RateOffice full = laden();
-        RateOffice twin = laden();
-        for (int r = 3; r < 40; r++) {
-            due(full.risk(1, r, 1, 0), r);
-            twin.risk(1, r, 1, 0);
-        }
-        due(full.risk(1, 1, 1, 0), -2);
-        SHEET.same(trail(full), trail(twin));
+        SHEET.sameTrail(() -> {
+            RateOffice x = full();
+            due(x.risk(1, 1, 1, 0), -2);
+            return x;
+        }, KeepBoundsTest::full);
         // of 900 bytes twenty more
-        RateOffice fed = laden();
-        RateOffice feeder = laden();
-        for (int i = 0; i < 44; i++) {
-            fed.feed(0, 0, 0, 0, 0);
-            feeder.feed(0, 0, 0, 0, 0);
-        }
-        due(fed.feed(1, 1, 1, 1, 1), -1);
-        SHEET.same(trail(fed), trail(feeder));
+        SHEET.sameTrail(() -> {
+            RateOffice x = fed();
+            due(x.feed(1, 1, 1, 1, 1), -1);
+            return x;
+        }, KeepBoundsTest::fed);
         // nothing to undo, no image
-        RateOffice bare = rich();
-        due(bare.undo(), -1);
-        due(bare.back(), -1);
-        SHEET.same(trail(bare), trail(rich()));
+        SHEET.sameTrail(() -> {
+            RateOffice x = rich();
+            due(x.undo(), -1);
+            due(x.back(), -1);
+            return x;
+        }, KeepBoundsTest::rich);
+    }
+
+    private static RateOffice full() {
+        RateOffice x = laden();
+        for (int r = 3; r < 40; r++) {
+            x.risk(1, r, 1, 0);
+        }
+        return x;
+    }
+
+    private static RateOffice fed() {
+        RateOffice x = laden();
+        for (int i = 0; i < 44; i++) {
+            x.feed(0, 0, 0, 0, 0);
+        }
+        return x;
     }
 
     private static void dropped() {
@@ -359,39 +384,47 @@ public final class KeepBoundsTest {
     private static void back() {
         SHEET.promise(44);
         SHEET.sentence("All is as in the IMAGE (nothing to undo then; it stays): how many RISKS");
-        RateOffice x = rich();
-        x.cap(5);
-        x.keep();
-        String kept = Desk.picture(x);
-        for (int i = 0; i < 3; i++) {
-            for (Call change : CHANGES) {
-                change.on(x);
+        String kept = Desk.picture(kept());
+        for (int times = 1; times <= 3; times++) {
+            RateOffice x = kept();
+            for (int i = 0; i < times; i++) {
+                for (Call change : CHANGES) {
+                    change.on(x);
+                }
+                due(x.back(), 3);
+                due(x.count(7), 0);
+                due(x.undo(), -1);
             }
-            SHEET.differ(Desk.picture(x), kept);
-            due(x.back(), 3);
             SHEET.same(Desk.picture(x), kept);
-            due(x.count(7), 0);
-            due(x.undo(), -1);
         }
         // undoing does nothing to it, nor a text with a fault
-        x.cap(6);
-        x.undo();
-        due(Desk.tell(x, "?"), -1);
-        x.drop(1);
-        due(x.back(), 3);
-        SHEET.same(Desk.picture(x), kept);
+        RateOffice y = kept();
+        y.cap(6);
+        y.undo();
+        due(Desk.tell(y, "?"), -1);
+        y.drop(1);
+        due(y.back(), 3);
+        SHEET.same(Desk.picture(y), kept);
 
         SHEET.sentence("NONE: there is none.");
         due(new RateOffice().back(), -1);
-        RateOffice y = rich();
-        y.cap(7);
-        due(y.back(), -1);
-        due(y.count(4), 7);
-        due(y.count(7), 1);
-        y.keep();
-        due(Desk.tell(y, "cap 1;"), 1);
-        due(y.back(), -1);
-        due(y.count(4), 1);
+        RateOffice z = rich();
+        z.cap(7);
+        due(z.back(), -1);
+        due(z.count(4), 7);
+        due(z.count(7), 1);
+        z.keep();
+        due(Desk.tell(z, "cap 1;"), 1);
+        due(z.back(), -1);
+        due(z.count(4), 1);
+    }
+
+    /** With an image, and a call to undo ahead of it. */
+    private static RateOffice kept() {
+        RateOffice x = rich();
+        x.cap(5);
+        x.keep();
+        return x;
     }
 
     private static void count() {

@@ -4,6 +4,8 @@ import java.nio.file.Files;
 import java.nio.file.Path;
 import java.util.HashSet;
 import java.util.Set;
+import java.util.function.Supplier;
+import java.util.function.ToLongFunction;
 
 /**
  * What is due, sentence by sentence: each one is quoted from the document, stands in it to the letter, and has rows
@@ -28,6 +30,11 @@ final class Sheet {
         } catch (IOException e) {
             throw new IllegalStateException(e);
         }
+    }
+
+    /** The sentences that follow are of the document's beginning. */
+    void beginning() {
+        open("what it is", "\n## What it is", "\n## ");
     }
 
     /** The sentences that follow are of a promise. */
@@ -99,6 +106,37 @@ final class Sheet {
 
     void differ(String one, String other) {
         holds(!one.equals(other), "nothing is another");
+    }
+
+    /**
+     * Two ways to make an office lead to the same: what it holds, what it holds behind each undo(), its image, its
+     * tape. Each one is made anew for each look, as an object is good for 512 calls.
+     */
+    void sameTrail(Supplier<RateOffice> got, Supplier<RateOffice> want) {
+        int undos = want.get().count(7);
+        for (int n = 0; n <= undos + 1; n++) {
+            int times = n;
+            sameBehind(got, want, x -> undoTimes(x, times));
+        }
+        sameBehind(got, want, RateOffice::back);
+        sameBehind(got, want, x -> x.text(6));
+    }
+
+    private void sameBehind(Supplier<RateOffice> got, Supplier<RateOffice> want, ToLongFunction<RateOffice> step) {
+        RateOffice g = got.get();
+        RateOffice w = want.get();
+        due(step.applyAsLong(g), step.applyAsLong(w));
+        due(g.count(7), w.count(7));
+        due(g.count(8), w.count(8));
+        same(Desk.picture(g), Desk.picture(w));
+    }
+
+    private static long undoTimes(RateOffice x, int times) {
+        long left = 0;
+        for (int i = 0; i < times; i++) {
+            left = x.undo();
+        }
+        return left;
     }
 
     void fault(String text, int kind, int place) {

@@ -139,7 +139,8 @@ public final class StandBoundsTest {
         long[] capped = {100, 101, 99, 100, 100};
         for (int r = 0; r < 5; r++) {
             due(h.of(r, 4), capped[r]);
-            due(h.of(r, 5), capped[r] - h.of(r, 2));
+            // each by itself, whatever was asked ahead of it
+            due(Desk.office(HELD).of(r, 5), capped[r] - h.of(r, 2));
         }
         for (int r = 0; r < 5; r++) {
             h.claims(r, 0);
@@ -300,6 +301,19 @@ public final class StandBoundsTest {
         due(h.offBalance(), 12300);
         due(h.changes(3), 4);
         due(h.changes(2), 0);
+        // those that are gone are none of them; as many as there can be
+        h.drop(4);
+        h.drop(3);
+        due(h.offBalance(), -2);
+        due(h.changes(0), 1);
+        due(h.changes(1), 2);
+        due(h.changes(2), 1);
+        due(h.changes(3), 1);
+        RateOffice full = Desk.office("base 9;" + Desk.times(40, "risk 1 9 100;"));
+        due(full.changes(1), 40);
+        due(full.changes(2), 40);
+        due(full.changes(0), 0);
+        due(full.changes(3), 0);
         due(new RateOffice().changes(2), 0);
         due(new RateOffice().changes(3), 0);
 
@@ -337,6 +351,10 @@ public final class StandBoundsTest {
         // 100 of 1000100
         due(less.share(0, 0), 0);
         due(less.share(0, 1), 999);
+
+        // 1 is all there is
+        due(Desk.office("base 1;factor a 2;risk 1 1 1 0;").share(0, 0), 1000);
+        due(Desk.office("base 1;factor a 2;risk 1 1 1 0;").share(0, 1), 0);
 
         SHEET.sentence("-2: PAID is 0");
         due(unpaid().share(0, 0), -2);
@@ -481,6 +499,23 @@ public final class StandBoundsTest {
         due(off.swing(0, 0, 1), 1);
         // the risk stays where it is
         due(x.of(0, 6), 3);
+        // of each factor, its own levels alone, all of them above (below) what others have
+        for (int f = 0; f < 4; f++) {
+            RateOffice each = Desk.office("factor a 3;factor b 3;factor c 3;factor d 3;risk 1 1 1 2 1 2 1;");
+            int[] above = {30000, 20000, 40000};
+            int[] below = {3000, 4000, 2000};
+            for (int l = 0; l < 3; l++) {
+                each.relativity(f, l, above[l]);
+            }
+            due(each.swing(0, f, 0), 2);
+            due(each.swing(0, f, 1), 1);
+            for (int l = 0; l < 3; l++) {
+                each.relativity(f, l, below[l]);
+            }
+            due(each.swing(0, f, 0), 1);
+            due(each.swing(0, f, 1), 2);
+            due(each.swing(0, (f + 1) % 4, 0), 0);
+        }
 
         SHEET.sentence("NONE: no such ones.");
         RateOffice y = Desk.office(TWO);

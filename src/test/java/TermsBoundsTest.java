@@ -397,6 +397,19 @@ public final class TermsBoundsTest {
         due(two.margin(0, 0, 0), 10000);
         due(two.margin(1, 0, 0), 10000);
 
+        // of four as of two
+        RateOffice four = Desk.office("base 1000;factor a 6;factor b 6;factor c 6;factor d 6;risk 1 1 1 5 4 3 5;");
+        four.relativity(0, 5, 20000);
+        four.relativity(1, 4, 5000);
+        four.relativity(2, 3, 30000);
+        four.relativity(3, 5, 4000);
+        due(four.level(), 1200);
+        due(four.margin(0, 0, 0), 5000);
+        due(four.margin(1, 0, 0), 20000);
+        due(four.margin(2, 0, 0), 3333);
+        due(four.margin(3, 0, 0), 25000);
+        due(four.margin(3, 5, 0), 10000);
+
         SHEET.sentence("BASE becomes BASE times r by 10000, downwards (1 at least, 99999 at most)");
         int[][] rows = {{101, 15000, 151}, {1, 9999, 1}, {2, 5000, 1}, {3, 5000, 1}, {9, 1000, 1}, {10, 1000, 1},
             {33333, 30000, 99999}, {33334, 30000, 99999}, {99999, 10001, 99999}, {99999, 50000, 99999},
@@ -432,6 +445,15 @@ public final class TermsBoundsTest {
         v.level();
         due(v.margin(0, 1, 0), 49998);
         due(v.margin(0, 2, 0), 50000);
+        // by the least r there is
+        RateOffice least = Desk.office("base 99999;factor a 3;band a 1 99999;risk 2 0 1 0;risk 1 1 1 1;");
+        least.relativity(0, 0, 1);
+        least.relativity(0, 1, 3);
+        least.relativity(0, 2, 10);
+        due(least.level(), 9);
+        due(least.margin(0, 0, 0), 10000);
+        due(least.margin(0, 1, 0), 30000);
+        due(least.margin(0, 2, 0), 99999);
         RateOffice none = rated("", 30000, 3000, 2999);
         due(none.level(), 1000);
         due(none.margin(0, 0, 0), 30000);

@@ -127,21 +127,20 @@ public final class TextBoundsTest {
         SHEET.right(Desk.times(40, "risk 1 1 1;") + "base 1;cap 1;seed 1;trust 1;bound 1;", 45);
 
         SHEET.sentence("NONE with a FAULT, all else stays");
-        RateOffice z = busy();
-        due(Desk.tell(z, "factor c 5;base 7;bound 1;cap 1;trust 1;fleet 1 1;seed 1;risk 9 9 9 0;cap 2;"), -1);
-        sameTrail(z, busy());
+        SHEET.sameTrail(() -> {
+            RateOffice z = busy();
+            due(Desk.tell(z, "factor c 5;base 7;bound 1;cap 1;trust 1;fleet 1 1;seed 1;risk 9 9 9 0;cap 2;"), -1);
+            return z;
+        }, TextBoundsTest::busy);
 
         SHEET.sentence("-2, and the TAPE stays: there are not so many, n is below 0.");
         for (int n : new int[] {21, 22, 900, 901, Integer.MAX_VALUE, -1, -2, Integer.MIN_VALUE}) {
-            RateOffice u = busy();
-            Desk.feedAll(u, "cap 7;");
-            due(u.text(n), -2);
-            due(u.count(8), 20);
-            RateOffice v = busy();
-            Desk.feedAll(v, "cap 7;");
-            sameTrail(u, v);
-            due(u.text(6), 1);
-            due(u.count(4), 7);
+            SHEET.sameTrail(() -> {
+                RateOffice u = fed();
+                due(u.text(n), -2);
+                due(u.count(8), 20);
+                return u;
+            }, TextBoundsTest::fed);
         }
         RateOffice full = new RateOffice();
         Desk.feedAll(full, "cap 7;              ");
@@ -159,15 +158,10 @@ public final class TextBoundsTest {
         return x;
     }
 
-    private static void sameTrail(RateOffice got, RateOffice want) {
-        SHEET.same(Desk.picture(got), Desk.picture(want));
-        due(got.undo(), want.undo());
-        SHEET.same(Desk.picture(got), Desk.picture(want));
-        due(got.undo(), want.undo());
-        due(got.undo(), -1);
-        SHEET.same(Desk.picture(got), Desk.picture(want));
-        due(got.back(), want.back());
-        SHEET.same(Desk.picture(got), Desk.picture(want));
+    private static RateOffice fed() {
+        RateOffice x = busy();
+        Desk.feedAll(x, "cap 7;");
+        return x;
     }
 
     private static void fault() {
@@ -397,6 +391,11 @@ public final class TextBoundsTest {
         RateOffice y = Desk.office(rest);
         due(y.chance(-1, 7, 5000, 0, 0), y.chance(0, 7, 5000, 0, 0));
         SHEET.holds(y.chance(0, 7, 5000, 0, 0) != y.chance(99999, 7, 5000, 0, 0), "all seeds draw the same");
+        // what an earlier text told is gone
+        due(Desk.tell(y, "seed 99999;" + rest), 6);
+        due(y.chance(-1, 7, 5000, 0, 0), y.chance(99999, 7, 5000, 0, 0));
+        due(Desk.tell(y, rest), 5);
+        due(y.chance(-1, 7, 5000, 0, 0), y.chance(0, 7, 5000, 0, 0));
         SHEET.fault("seed 100000;", 2, 5);
     }
 
@@ -499,12 +498,31 @@ public final class TextBoundsTest {
         }
         SHEET.fault("risk 1 1 1;factor a 1;", 1, 11);
         SHEET.fault("risk 1 1 1;factor", 1, 11);
-        // more bytes on the tape than the text has are none of it
+        // more bytes on the tape than the text has are none of it: "base 5", "bas", "cap 999"
+        cut("cap 1;base 55;", 12, 1, 12);
+        cut("cap 1;base 55;", 9, 1, 6);
+        cut("cap 9999;", 7, 1, 7);
+        // as long as a tape can be, to its last byte
+        String blanks = Desk.times(896, " ");
+        cut(blanks + "cap ", 900, 1, 900);
+        cut(blanks + " cap", 900, 1, 900);
+        cut(blanks + "caps", 900, 1, 896);
+        cut(blanks + "cap1", 900, 1, 900);
+        cut(blanks.substring(1) + "cap1;", 900, 0, -1);
+        // as many tokens as there can be
+        for (String token : new String[] {";", "?", "7 ", "a "}) {
+            cut(Desk.times(900 / token.length(), token), 900, 1, 0);
+        }
+        cut("cap 1" + Desk.times(895, ";"), 900, 1, 6);
+    }
+
+    /** The first n bytes of what is fed are the text, with a fault or (0, -1) without. */
+    private static void cut(String fed, int n, int kind, int place) {
         RateOffice x = new RateOffice();
-        Desk.feedAll(x, "cap 1;base 55;");
-        due(x.text(12), -1);
-        due(x.fault(0), 1);
-        due(x.fault(1), 12);
+        Desk.feedAll(x, fed);
+        due(x.text(n), kind == 0 ? 1 : -1);
+        due(x.fault(0), kind);
+        due(x.fault(1), place);
     }
 
     private static void beyond(String until, int low, int high, String behind) {
