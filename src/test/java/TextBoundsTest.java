@@ -239,6 +239,20 @@ public final class TextBoundsTest {
         SHEET.fault("cap 1 base 1;", 1, 6);
         SHEET.fault("cap 1", 1, 5);
 
+        SHEET.sentence("LINE: factor W N | band W N N | join W N | base N | bound N | cap N | trust N | fleet N N |"
+                + " risk N N N N.. | seed N.");
+        String[] lines = {"factor b 1", "band a 1 10000", "join a 0", "base 1", "bound 1", "cap 1", "trust 1", "fleet 1 1",
+            "risk 1 1 1 1", "seed 1"};
+        String factor = "factor a 2;";
+        for (String line : lines) {
+            SHEET.right(factor + line + ";", 2);
+            // a token less, a token more
+            int last = line.lastIndexOf(' ');
+            SHEET.fault(factor + line.substring(0, last) + ";", 1, 11 + last);
+            SHEET.fault(factor + line + " 1;", 1, 12 + line.length());
+            SHEET.fault(factor + line + " a;", 1, 12 + line.length());
+        }
+
         SHEET.sentence("Words: small letters in a row");
         SHEET.right("factor az 1;", 1);
         SHEET.fault("`", 1, 0);
