@@ -17,6 +17,9 @@ import java.util.regex.Pattern;
 public final class FaceTest {
     private static final Path SOURCE = Path.of("src/main/java/RateOffice.java");
     private static final Path DOCUMENT = Path.of("../shared/DOC.md");
+    // A method's first line, of the class itself or of one inside it, and not a block's.
+    private static final Pattern METHOD =
+            Pattern.compile(" {4}(?: {4})?(?!if |for |while |switch |do |try |[ /*}])[^=;]*\\(.*\\{");
     private static int wrong = 0;
 
     private static void need(boolean holds, String what) {
@@ -30,6 +33,8 @@ public final class FaceTest {
         checkFace();
         checkHidden();
         checkSource();
+        checkSizes();
+        checkMethodLengths();
         System.out.println(wrong == 0 ? "FaceTest: the face is as due" : "FaceTest: " + wrong + " faults");
         if (wrong != 0) {
             System.exit(1);
@@ -105,5 +110,51 @@ public final class FaceTest {
             boolean atConstruction = made.start() < source.indexOf("// ---- the tape and the text ----");
             need(thrown || field || atConstruction, "a call makes a " + made.group(2));
         }
+    }
+
+    /** LANGUAGE.md, rule 11: seven parameters, some twelve classes, some twenty fields beside the constants. */
+    private static void checkSizes() {
+        List<Class<?>> classes = new ArrayList<>(List.of(RateOffice.class.getDeclaredClasses()));
+        classes.add(RateOffice.class);
+        need(classes.size() <= 12, "there are " + classes.size() + " classes");
+        for (Class<?> c : classes) {
+            int fields = 0;
+            for (Field f : c.getDeclaredFields()) {
+                fields += Modifier.isStatic(f.getModifiers()) ? 0 : 1;
+            }
+            need(fields <= 20, c + " has " + fields + " fields");
+            for (Method m : c.getDeclaredMethods()) {
+                need(m.getParameterCount() <= 7, m + " has more than seven parameters");
+            }
+        }
+    }
+
+    /** LANGUAGE.md, rules 11 and 4: methods of some sixty lines, signs 1 to 127. */
+    private static void checkMethodLengths() throws Exception {
+        List<String> lines = Files.readAllLines(SOURCE, StandardCharsets.UTF_8);
+        String opened = "";
+        int from = 0;
+        int methods = 0;
+        for (int i = 0; i < lines.size(); i++) {
+            String line = lines.get(i);
+            need(line.chars().allMatch(c -> c > 0 && c < 128), "line " + (i + 1) + " has a sign beyond 127");
+            if (METHOD.matcher(line).matches()) {
+                opened = line.substring(0, line.length() - line.stripLeading().length());
+                from = i;
+                methods++;
+            } else if (line.equals(opened + "}")) {
+                need(i - from < 60, "a method of " + (i - from + 1) + " lines stands at line " + (from + 1));
+            }
+        }
+        need(methods >= countMethods(), "seen were " + methods + " methods of " + countMethods());
+    }
+
+    /** Without constructors: the source need not have them. */
+    private static int countMethods() {
+        int n = RateOffice.class.getDeclaredMethods().length;
+        for (Class<?> c : RateOffice.class.getDeclaredClasses()) {
+            n += c.getDeclaredMethods().length;
+        }
+        return n;
     }
 }
